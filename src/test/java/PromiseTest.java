@@ -89,6 +89,7 @@ public final class PromiseTest {
         OvenDays run = Setup.with(1);
         Setup.run(run, "join 9;excuse 0;bring 1 0 3;bake 40;excuse 1;");
         run.undo();
+        check.is("wood and loaves of one that is gone", run.whole(4) + run.whole(5), 0);
         run.join(6);
         for (int what = 1; what < 8; what++) {
             check.is("a new one after undo has nothing of value " + what, run.household(1, what), 0);
@@ -843,6 +844,10 @@ public final class PromiseTest {
         check.is("doughWith(24)", x.doughWith(24), 0);
         check.is("doughWith(40)", x.doughWith(40), 0);
         check.is("nothing changed", x.digest(), before);
+        x.doughWith(1);
+        loads("a day after a question", dayAfter(x, 24, 2), 0, 260, 250, 1, 250, 225, 2, 200, 160);
+        x.undo();
+        x.undo();
         for (int wood : new int[] {0, 41, -1, Integer.MAX_VALUE}) {
             check.refuses("doughWith(" + wood + ")", ARGUMENT, () -> x.doughWith(wood));
             check.refuses("doughWith(" + wood + ") without batches", ARGUMENT, () -> new OvenDays().doughWith(wood));
