@@ -459,8 +459,8 @@ public final class OvenDays {
         private final int room;
 
         Table(int width, int rows) {
-            columns = new int[width][rows];
-            room = rows;
+            room = Math.max(0, rows);
+            columns = new int[Math.max(0, width)][room];
         }
 
         int get(int row, int column) {

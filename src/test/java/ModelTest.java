@@ -1,7 +1,8 @@
 /** Long mixed runs of calls, in which the class must answer as the model does. */
 public final class ModelTest {
-    private static final int RUNS = 250;
+    private static final int RUNS = 400;
     private static final int CALLS = 512;
+    private static final int CALLS_OF_A_TEXT = 130;
     private static final int TEXTS = 30_000;
     private static final int METHODS = 28;
     private static final String[] PIECES = {"join ", "bring ", "bake ", "claim ", "return ", "excuse ", "give", ";",
@@ -13,6 +14,7 @@ public final class ModelTest {
 
     private static final Check check = new Check();
     private static long random;
+    private static int used;
 
     public static void main(String[] args) {
         for (int run = 0; run < RUNS; run++) {
@@ -36,20 +38,27 @@ public final class ModelTest {
         OvenModel y = new OvenModel();
         int households = 2 + pick(7);
         int oftenUndone = pick(3);
-        for (int call = 0; call < CALLS; call++) {
-            int method = call < households ? 0 : pickMethod(oftenUndone);
+        used = 0;
+        while (used < CALLS) {
+            int picked = used < households ? 0 : pickMethod(oftenUndone);
+            int method = picked == METHODS && used + CALLS_OF_A_TEXT > CALLS ? 3 : picked;
             int[] args = argumentsOf(method, y);
-            String what = "run " + run + ", call " + call + ", method " + method + " of " + args[0] + ", " + args[1]
+            String what = "run " + run + ", call " + used + ", method " + method + " of " + args[0] + ", " + args[1]
                     + ", " + args[2];
             if (method == METHODS) {
                 typeSome(x, y);
             } else {
-                check.same(what, () -> answer(x, method, args), () -> answer(y, method, args));
+                both(what, () -> answer(x, method, args), () -> answer(y, method, args));
             }
-            if (call % 8 == 7) {
-                check.is(what + ": digest", x.digest(), y.digest());
+            if (used < CALLS && pick(8) == 0) {
+                both(what + ": digest", x::digest, y::digest);
             }
         }
+    }
+
+    private static void both(String what, Check.Call got, Check.Call due) {
+        used++;
+        check.same(what, got, due);
     }
 
     /** A number of a method, or METHODS for typing a whole text. */
@@ -102,18 +111,18 @@ public final class ModelTest {
     }
 
     private static void typeSome(OvenDays x, OvenModel y) {
-        check.same("clearCommands", x::clearCommands, y::clearCommands);
+        both("clearCommands", x::clearCommands, y::clearCommands);
         int pieces = 1 + pick(9);
         for (int piece = 0; piece < pieces; piece++) {
             typePiece(x, y, COMMANDS[pick(COMMANDS.length)]);
         }
-        check.same("runCommands", x::runCommands, y::runCommands);
-        check.same("stop", x::stop, y::stop);
+        both("runCommands", x::runCommands, y::runCommands);
+        both("stop", x::stop, y::stop);
     }
 
     private static void typePiece(OvenDays x, OvenModel y, String piece) {
         for (char sign : piece.toCharArray()) {
-            check.same("type", () -> x.type(sign), () -> y.type(sign));
+            both("type", () -> x.type(sign), () -> y.type(sign));
         }
     }
 

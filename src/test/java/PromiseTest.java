@@ -510,10 +510,8 @@ public final class PromiseTest {
         check.is("loaf 215", x.loaf(215, 2), 2);
         check.is("owned", x.household(0, 4), 200);
 
-        // Only with batches of all three kinds has the oven heat enough for more than 200 loaves on one day.
-        OvenDays great = Setup.with(1, 2);
-        int total = manyOnOneDay(great);
-        check.is("all of a great day came out", total, great.whole(7));
+        OvenDays great = great();
+        int total = great.whole(7);
         check.isTrue("more than 200 came out on one day: " + total, total > 200);
         check.is("kept of the great day", great.whole(9), 200);
         check.is("first kept of the great day", great.loaf(total - 200, 2), 0);
@@ -522,11 +520,13 @@ public final class PromiseTest {
                 + great.whole(10), 200);
     }
 
-    private static int manyOnOneDay(OvenDays x) {
+    private static OvenDays great() {
+        OvenDays x = Setup.with(1, 2);
         for (int batch = 0; batch < 20; batch++) {
             x.bring(batch % 2, batch < 14 ? 0 : batch < 16 ? 1 : 2, 12);
         }
-        return x.bake(40);
+        x.bake(40);
+        return x;
     }
 
     // ---- promises 9, 10 and 11
@@ -1174,23 +1174,26 @@ public final class PromiseTest {
         check.is("undo of the first", x.undo(), 0);
         check.is("households at last", x.whole(0), 2);
 
-        OvenDays all = mistaken();
-        Object[] states = new Object[5];
-        all.returnLoaves(0);
-        all.bring(1, 2, 9);
-        all.excuse(2);
-        states[0] = Setup.digestOf(all, 0, 0);
-        all.bake(9);
-        states[1] = Setup.digestOf(all, 0, 0);
-        all.giveAway();
-        states[2] = Setup.digestOf(all, 0, 0);
-        all.remark(2, 99);
-        states[3] = Setup.digestOf(all, 0, 0);
-        all.setS(5);
-        for (int state = 3; state >= 0; state--) {
-            check.is("undo of all", all.undo(), state);
-            check.isTrue("state " + state, states[state].equals(Setup.digestOf(all, 0, 0)));
+        for (int calls = 3; calls >= 0; calls--) {
+            OvenDays undone = afterSome(4);
+            for (int left = 3; left >= calls; left--) {
+                check.is("undo of all", undone.undo(), left);
+            }
+            check.is("state after " + calls, Setup.digestOf(undone, 0, 0), Setup.digestOf(afterSome(calls), 0, 0));
         }
+    }
+
+    /** A village after the first ones of four calls, each of which changes something else. */
+    private static OvenDays afterSome(int calls) {
+        OvenDays x = mistaken();
+        x.returnLoaves(0);
+        x.bring(1, 2, 9);
+        x.excuse(2);
+        Check.Call[] row = {() -> x.bake(9), x::giveAway, () -> x.remark(2, 99), () -> x.setS(5)};
+        for (int call = 0; call < calls; call++) {
+            row[call].answer();
+        }
+        return x;
     }
 
     private static void digest() {
@@ -1212,9 +1215,8 @@ public final class PromiseTest {
         loaves.bring(0, 0, 3);
         loaves.excuse(1);
         check.is("with loaves, loads and batches", loaves.digest(), Setup.digestOf(loaves, 4, 0));
-        OvenDays many = Setup.with(1, 2);
-        manyOnOneDay(many);
-        check.is("with 200 loaves", many.digest(), Setup.digestOf(many, 4, 0));
+        OvenDays many = great();
+        check.is("with 200 loaves", many.digest(), Setup.digestOf(PromiseTest::great, 4, 0));
     }
 
     /** The digest tells the whole state, with the stack and the text. */
