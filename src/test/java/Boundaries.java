@@ -59,6 +59,13 @@ abstract class Boundaries {
         });
     }
 
+    /** A call is refused with this very exception, and the digest is as before it. */
+    static void refusedHere(String what, Class<?> due, OvenDays x, On call) {
+        long before = x.digest();
+        check.refuses(held + what, due, () -> call.answer(x));
+        is(what + " changes nothing", x.digest(), before);
+    }
+
     /** A call answers as asked, and all is as in a village in which it was not made. */
     static void onlyAnswers(String what, Maker maker, On call, long want) {
         unchanged(what, maker, x -> {

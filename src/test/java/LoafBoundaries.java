@@ -72,12 +72,12 @@ final class LoafBoundaries extends Boundaries {
             is("owner of " + loaf, x.loaf(loaf, 0), owners[loaf]);
             is("kind of " + loaf, x.loaf(loaf, 1), kinds[loaf]);
         }
-        isTrue("none behind the last", Check.thrownBy(() -> x.loaf(4, 0)) == INDEX);
+        refusedHere("none behind the last", INDEX, x, y -> y.loaf(4, 0));
         x.bring(1, RUSKS, 1);
         x.bake(1);
         is("the first of the next day", x.loaf(4, 1), RUSKS);
         is("its day", x.loaf(4, 2), 1);
-        isTrue("none behind it", Check.thrownBy(() -> x.loaf(5, 0)) == INDEX);
+        refusedHere("none behind it", INDEX, x, y -> y.loaf(5, 0));
     }
 
     /** Loaves that come out on one day, and then some days with one loaf each; all of household 0. */

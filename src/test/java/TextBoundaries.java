@@ -397,7 +397,7 @@ final class TextBoundaries extends Boundaries {
             OvenDays x = new OvenDays();
             Setup.run(x, text);
             is("states of '" + text + "'", x.undo(), 0);
-            isTrue("no more of '" + text + "'", Check.thrownBy(x::undo) == STATE);
+            refusedHere("no more of '" + text + "'", STATE, x, OvenDays::undo);
         }
         OvenDays full = Setup.with(1, 2, 4, 8);
         is("run on a full stack", Setup.run(full, "join 16;join 32;join 64;"), 3);
@@ -527,7 +527,7 @@ final class TextBoundaries extends Boundaries {
         holds("Promise 27", "Tells why the latest run stopped.");
         OvenDays x = ready("");
         is("of the latest run", x.stop(), 1);
-        isTrue("a refused call", Check.thrownBy(() -> x.join(0)) == ARGUMENT);
+        refusedHere("a refused call", ARGUMENT, x, y -> y.join(0));
         is("is no run", x.stop(), 1);
         x.runCommands();
         is("of the next run", x.stop(), 0);

@@ -186,7 +186,7 @@ final class UndoBoundaries extends Boundaries {
         OvenDays x = new OvenDays();
         x.type(' ');
         x.digest();
-        isTrue("no state at all", Check.thrownBy(x::undo) == STATE);
+        refusedHere("no state at all", STATE, x, OvenDays::undo);
     }
 
     private void refusedSaveNone() {
@@ -232,7 +232,7 @@ final class UndoBoundaries extends Boundaries {
         is("before the second", x.whole(13), 10);
         x.undo();
         is("before the first", x.whole(13), 1);
-        isTrue("nothing before it", Check.thrownBy(x::undo) == STATE);
+        refusedHere("nothing before it", STATE, x, OvenDays::undo);
         OvenDays y = new OvenDays();
         Setup.run(y, "join 1;join 2;");
         y.undo();
@@ -252,7 +252,7 @@ final class UndoBoundaries extends Boundaries {
                 int due = calls - (kept - left);
                 is("s of " + calls, x.whole(13), due == 0 ? 1 : 100 + due);
             }
-            isTrue("no more after " + calls, Check.thrownBy(x::undo) == STATE);
+            refusedHere("no more after " + calls, STATE, x, OvenDays::undo);
         }
         OvenDays mixed = new OvenDays();
         for (int call = 1; call <= 5; call++) {

@@ -277,10 +277,10 @@ final class ValueBoundaries extends Boundaries {
         is("the last of 201", cameOut(201).loaf(200, 0), 0);
         OvenDays x = cameOut(200);
         Setup.day(x, 40, FLAT, 1);
-        isTrue("dropped", Check.thrownBy(() -> x.loaf(0, 0)) == INDEX);
+        refusedHere("dropped", INDEX, x, y -> y.loaf(0, 0));
         x.undo();
         is("kept again after an undo", x.loaf(0, 2), 0);
-        isTrue("gone by an undo", Check.thrownBy(() -> x.loaf(200, 0)) == INDEX);
+        refusedHere("gone by an undo", INDEX, x, y -> y.loaf(200, 0));
     }
 
     // ---- promise 18
