@@ -348,6 +348,10 @@ final class OvenBoundaries extends Boundaries {
         loaded("passed over twice", sizes(FLAT, 40, 12, 10, 3, 3, 1, 2, 1), 4, 24, 3, 8);
         loaded("no room is left", sizes(FLAT, 40, 12, 12, 1, 1), 2, 24, 2, 2);
         loaded("twenty of one loaf", sizes(FLAT, 40, 1, 1, 1, 1, 1, 1, 1, 1, 1, 1, 1, 1, 1, 1, 1, 1, 1, 1, 1, 1), 20, 20);
+        OvenDays fewer = Setup.after(1, FLAT, 36);
+        Setup.day(fewer, 40, FLAT, 5);
+        loaded("one batch after a day with three of dough", fewer, 1, 5);
+        is("dough of that day alone", fewer.whole(6), 36);
         OvenDays x = evening20();
         x.bring(0, BREAD, 12);
         x.bring(0, FLAT, 12);
